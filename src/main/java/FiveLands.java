@@ -224,8 +224,17 @@ public final class FiveLands {
         if (what == 6) {
             return has(levy.his, land) ? 1 : 0;
         }
-        int above = levy.above[land];
-        return above == 0 ? NONE : Integer.numberOfTrailingZeros(above);
+        return least(levy.above[land]);
+    }
+
+    /** The least LAND of a set, or NONE. */
+    private static int least(int set) {
+        for (int l = 0; l < LANDS; l++) {
+            if (has(set, l)) {
+                return l;
+            }
+        }
+        return NONE;
     }
 
     public int decides(int y, int a, int b) {
