@@ -228,6 +228,10 @@ public final class LevyTest {
         Tests.pact(chain, 0, 1, "relief off;");
         Tests.pact(chain, 1, 2, "relief off;");
         taken("a chain", chain, 3, 0, 3000, 0);
+        FiveLands zero = ring(new int[] {20, 20, 10}, new boolean[3]);
+        Tests.pact(zero, 0, 1, "relief off;");
+        Tests.pact(zero, 1, 2, "relief off;");
+        taken("a land of a set that would take just 0", zero, 2, 0, 2000, 0);
         FiveLands four = ring(new int[] {10, 10, 30, 30}, new boolean[] {false, false, true, true});
         Tests.pact(four, 0, 1, "relief off;");
         Tests.pact(four, 2, 3, "relief off;");

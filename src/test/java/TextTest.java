@@ -231,6 +231,10 @@ public final class TextTest {
         Tests.lawFault("mines 1=1;", 1, 0);
         Tests.lawFault("mineX 1=1;", 1, 0);
         Tests.lawFault("min 1=1;", 1, 0);
+        Tests.lawFault("minez 1=1;", 1, 0);
+        Tests.lawFault("minea 1=1;", 1, 0);
+        Tests.lawFault("mineZ 1=1;", 1, 0);
+        Tests.lawFault("mineA 1=1;", 1, 0);
         Tests.lawFault("throughthrough", 1, 0);
         Tests.lawFault("free 1234567;", 1, 5);
         Tests.lawFault("free 0000001;", 1, 5);
