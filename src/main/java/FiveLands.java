@@ -480,12 +480,11 @@ public final class FiveLands {
     }
 
     public int mend() {
-        long closing = closing();
         hear(1);
         long limit = levy.settleAll(years[1]);
         for (int many = 0; many <= plans.words; many++) {
             for (int set = 0; set < 1 << plans.words; set++) {
-                if (Integer.bitCount(set) == many && has(closing, set) && owesUnder(set) <= limit) {
+                if (Integer.bitCount(set) == many && closes(set) && owesUnder(set) <= limit) {
                     return set;
                 }
             }
@@ -493,20 +492,10 @@ public final class FiveLands {
         return NONE;
     }
 
-    /** The sets of WORDS, each a bit, by which no set of TURNINGS owes less than none. */
-    private long closing() {
-        long closing = 0;
+    /** Whether with a set of WORDS no TURNING owes less than none: then no set of them does. */
+    private boolean closes(int set) {
         hear(0);
-        for (int set = 0; set < 1 << plans.words; set++) {
-            amend(set);
-            if (noTurningPays()) {
-                closing |= 1L << set;
-            }
-        }
-        return closing;
-    }
-
-    private boolean noTurningPays() {
+        amend(set);
         for (int k = 0; k < plans.turnings; k++) {
             long straight = levy.settle(years[0].sums[plans.turnSum[k]]);
             if (levy.settle(turn(k)) + plans.price(k) < straight) {
@@ -516,8 +505,9 @@ public final class FiveLands {
         return true;
     }
 
-    /** What YEAR 1, which is heard already, owes with a set of WORDS. */
+    /** What YEAR 1 owes with a set of WORDS. */
     private long owesUnder(int set) {
+        hear(1);
         amend(set);
         return levy.settleAll(years[1]);
     }
@@ -922,7 +912,6 @@ public final class FiveLands {
 
         void copyTerms(Pact other) {
             only = other.only;
-            topped = other.topped;
             relief = other.relief;
             looks = other.looks;
             System.arraycopy(other.tops, 0, tops, 0, KINDS);

@@ -70,6 +70,29 @@ final class Tests {
         due("fault(1) of " + text, FiveLands.NONE, x.fault(1));
     }
 
+    /** Whether LAND 0 of a new object says so by a B. */
+    static long says(String b) {
+        FiveLands x = new FiveLands();
+        return law(x, 0, "mine " + b + ";") == 1 ? x.of(0, 0, 5) : -99;
+    }
+
+    /** LANDS 0 and up are HIS by a home in YEAR 0, tax by one step from 0 on; a SUM of a KIND share from LAND 0. */
+    static FiveLands ring(int amount, int[] parts, String[] reliefs) {
+        FiveLands x = new FiveLands();
+        for (int l = 0; l < parts.length; l++) {
+            x.home(0, l, true);
+            law(x, l, "mine home=1;step 0 " + parts[l] + ";" + reliefs[l]);
+        }
+        x.sum(0, 3, 0, amount, 0, 0);
+        return x;
+    }
+
+    static void pacts(FiveLands x, String text, int[]... pairs) {
+        for (int[] p : pairs) {
+            due("pact of " + p[0] + " and " + p[1], 1, pact(x, p[0], p[1], text));
+        }
+    }
+
     static void finish() {
         if (wrong > 0) {
             System.out.println(wrong + " answers are not as due");
