@@ -14,6 +14,7 @@ public final class BoundsTakeTest {
         taxAtTheSteps();
         taxWithoutSteps();
         aheadGoesTowards0();
+        aheadIsWholeForOthers();
         aheadOfTheGreatest();
         freedByAnotherSourceAlone();
         freedBelowHis();
@@ -150,6 +151,24 @@ public final class BoundsTakeTest {
         Tests.law(z, 0, "mine 1=1;step 0 1;");
         z.sum(0, 0, 0, 1, 0, 0);
         Tests.due("the least base", 1, z.takes(0, 0, 0, 1));
+    }
+
+    /** "Quotients go towards 0": so does AHEAD, before others count it as taken. */
+    private static void aheadIsWholeForOthers() {
+        FiveLands x = new FiveLands();
+        Tests.law(x, 0, "mine 1=1;step 0 10;step 2 11;relief off;");
+        Tests.law(x, 1, "mine 1=1;step 0 5;step 1 6;");
+        x.sum(0, 0, 0, 1, 5, 5);
+        x.sum(0, 0, 0, 2, 5, 5);
+        Tests.due("tax of 0", 31, x.tax(0, 3));
+        Tests.due("tax of 1", 17, x.tax(1, 3));
+        Tests.due("31 thirds", 10, x.takes(0, 0, 0, 1));
+        Tests.due("17 thirds", 5, x.takes(0, 0, 1, 1));
+        Tests.due("10 less 5, not 14 thirds", 5, x.takes(0, 0, 0, 2));
+        Tests.due("62 thirds", 20, x.takes(0, 1, 0, 1));
+        Tests.due("34 thirds", 11, x.takes(0, 1, 1, 1));
+        Tests.due("20 less 11", 9, x.takes(0, 1, 0, 2));
+        Tests.due("both of both", 30, x.owes(0, 0));
     }
 
     /** The greatest TAX times the greatest AMOUNT is above all ints. */

@@ -212,7 +212,7 @@ public final class RefusedTest {
             x.word(k, (k + 1) % 6, k % 5, k);
         }
         for (int k = 0; k < 10; k++) {
-            x.answer(0, k % 6, 0, (int) x.of(0, k % 6, 6));
+            x.answer(0, k % 6, 0, x.of(0, k % 6, 6));
         }
         Tests.law(x, 5, "relief off;relief");
         Tests.tape(x, "mine 1=1;step 0 9" + " ".repeat(583));
