@@ -9,6 +9,7 @@ public final class BoundsPlanTest {
     public static void main(String[] args) {
         edgeOfOneAndAll();
         edgeAsManyAsThereAre();
+        edgeNotBeyondWhatIsThere();
         edgeOfThoseKnown();
         edgeFirstToSecond();
         edgeByAllThatIsAsked();
@@ -58,6 +59,7 @@ public final class BoundsPlanTest {
         answersNotAsked();
         judgedNone();
         judgedFirstWrong();
+        judgedByHisAndTaken();
         judgedByAllOfV();
         looks();
         Tests.finish();
@@ -104,6 +106,24 @@ public final class BoundsPlanTest {
         Tests.due("there are no more", NONE, x.edge(0, 4, 1, 0));
         Tests.law(x, 4, "mine nights>0;");
         Tests.due("none in both", NONE, x.edge(0, 4, 5, 0));
+    }
+
+    /** "as many as there are there": not more, though what the other one has would decide it then. */
+    private static void edgeNotBeyondWhatIsThere() {
+        FiveLands x = new FiveLands();
+        Tests.law(x, 0, "mine most>10;");
+        x.night(0, 0, 9, 0);
+        Tests.due("ten go, not eleven", NONE, x.edge(0, 0, 1, 0));
+        Tests.due("nor by 1", NO_EDGE, x.edge(0, 0, 1, 1));
+        x.night(0, 10, 10, 0);
+        Tests.due("eleven go", 11, x.edge(0, 0, 1, 0));
+        x.night(0, 10, 10, 2);
+        Tests.due("the eleventh is in 2", NONE, x.edge(0, 0, 1, 0));
+        Tests.law(x, 0, "mine nights>10;");
+        x.night(0, 0, 9, 1);
+        Tests.due("ten come, not eleven", NONE, x.edge(0, 0, 1, 0));
+        x.night(0, 10, 10, 1);
+        Tests.due("eleven come", 11, x.edge(0, 0, 1, 0));
     }
 
     /** "of those known": RUBBED OUT NIGHTS are not moved. */
@@ -1012,6 +1032,29 @@ public final class BoundsPlanTest {
         z.home(0, 0, false);
         z.home(1, 0, true);
         Tests.due("right again: year 1 is not asked", NONE, z.judged());
+    }
+
+    /** "that a LAND is HIS", "TAKEN": not that it SAYS so, nor AHEAD. */
+    private static void judgedByHisAndTaken() {
+        FiveLands x = new FiveLands();
+        Tests.law(x, 0, "mine 1=1;step 0 30;relief off;");
+        Tests.law(x, 1, "mine 1=1;take pay 20;");
+        Tests.pact(x, 0, 1, "test home;");
+        x.home(0, 0, true);
+        x.sum(0, 0, 0, 10, 1, 1);
+        x.answer(0, 1, 0, 0);
+        x.answer(1, 0, 0, 100);
+        x.answer(1, 1, 0, 200);
+        x.answer(2, 0, 0, 300);
+        Tests.due("all right", NONE, x.judged());
+        x.home(0, 1, true);
+        Tests.due("both are then", 0, x.judged());
+        x.home(0, 1, false);
+        x.answer(1, 0, 0, 300);
+        Tests.due("that is AHEAD", 4, x.judged());
+        x.home(0, 0, false);
+        x.home(0, 1, true);
+        Tests.due("1 is his", 0, x.judged());
     }
 
     /** v is judged by all of it, not by what an int would hold of it. */

@@ -26,6 +26,7 @@ public final class BoundsTakeTest {
         topsOfHisAlone();
         seenThroughAlone();
         seenByLooking();
+        seenNotByGivingWay();
         reliefToldTwice();
         reliefNoByLaw();
         takenAtLeast0();
@@ -354,6 +355,26 @@ public final class BoundsTakeTest {
                 seen(x, 0);
             }
         }
+    }
+
+    /** "with one that is HIS": SAYING so is not enough, if it GIVES WAY. */
+    private static void seenNotByGivingWay() {
+        FiveLands x = new FiveLands();
+        Tests.law(x, 0, "mine 1=1;");
+        Tests.law(x, 1, "mine 1=1;");
+        x.sum(0, 5, 3, 1, 0, 0);
+        Tests.pact(x, 1, 2, "look;");
+        seen(x, 1 << 1 | 1 << 2);
+        Tests.pact(x, 0, 1, "test home;");
+        seen(x, 1 << 1 | 1 << 2);
+        x.home(0, 0, true);
+        Tests.due("1 gives way", 0, x.of(0, 1, 7));
+        seen(x, 0);
+        x.home(0, 1, true);
+        seen(x, 1 << 1 | 1 << 2);
+        x.home(0, 0, false);
+        Tests.pact(x, 0, 1, "test home;look;");
+        seen(x, 1 | 1 << 1 | 1 << 2);
     }
 
     private static void seen(FiveLands x, int looking) {
