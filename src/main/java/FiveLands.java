@@ -77,14 +77,14 @@ public final class FiveLands {
     private static final long NO_EDGE = NONE - 999999999999L;
 
     private final Year[] years = new Year[YEARS];
-    private final Law[] laws = new Law[LANDS];
+    private final Levy levy = new Levy();
+    private final Law[] laws = levy.laws;
     private final Pact[] pacts = new Pact[PAIRS];
     private final Pact[] amended = new Pact[PAIRS];
     private final Plans plans = new Plans();
     private final Claims claims = new Claims();
     private final int[] tape = new int[TAPE];
     private final Reader reader = new Reader();
-    private final Levy levy;
     private final Stay trial = new Stay();
     private final Sum turned = new Sum();
     private Law spareLaw = new Law();
@@ -95,14 +95,10 @@ public final class FiveLands {
         for (int y = 0; y < YEARS; y++) {
             years[y] = new Year();
         }
-        for (int l = 0; l < LANDS; l++) {
-            laws[l] = new Law();
-        }
         for (int p = 0; p < PAIRS; p++) {
             pacts[p] = new Pact();
             amended[p] = new Pact();
         }
-        levy = new Levy(laws);
     }
 
     public boolean night(int y, int from, int to, int land) {
@@ -1420,7 +1416,7 @@ public final class FiveLands {
 
     /** Whose he is, and what is taken of a SUM, for one YEAR as it was heard. */
     private static final class Levy {
-        final Law[] laws;
+        final Law[] laws = new Law[LANDS];
         final int[][] facts = new int[LANDS][FACTS];
         final int[] legFacts = new int[FACTS];
         final int[] pile = new int[PILE];
@@ -1439,8 +1435,10 @@ public final class FiveLands {
         int seeing;
         int answers;
 
-        Levy(Law[] laws) {
-            this.laws = laws;
+        Levy() {
+            for (int l = 0; l < LANDS; l++) {
+                laws[l] = new Law();
+            }
             legFacts[IN] = 1;
             legFacts[PAYS] = 1;
             legFacts[AMOUNT] = WHOLE;
